@@ -719,7 +719,7 @@ public final class LoveLocks {
             for (int y = 0; y < YEARS; y++) {
                 int group = lettered & locksOfYear(rail, y);
                 if (group != 0) {
-                    ways *= waysToRead(group, group, 0, 0);
+                    ways *= waysToRead(this, group, group, 0, 0);
                 }
             }
         }
@@ -734,22 +734,22 @@ public final class LoveLocks {
             return set;
         }
 
-        private long waysToRead(int group, int left, int taken, int depth) {
+        private static long waysToRead(Reader r, int group, int left, int taken, int depth) {
             if (left == 0) {
-                keepPairs(group);
+                r.keepPairs(group);
                 return 1;
             }
-            if (depth >= LOCKS || 2 * Integer.bitCount(left) > people - Integer.bitCount(taken)) {
+            if (depth >= LOCKS || 2 * Integer.bitCount(left) > r.people - Integer.bitCount(taken)) {
                 return 0;
             }
             int l = Integer.numberOfTrailingZeros(left);
             long found = 0;
-            for (int p = 0; p < people; p++) {
-                for (int q = p + 1; q < people; q++) {
+            for (int p = 0; p < r.people; p++) {
+                for (int q = p + 1; q < r.people; q++) {
                     int two = 1 << p | 1 << q;
-                    if ((taken & two) == 0 && Names.canBe(one[l], other[l], p, q)) {
-                        pair[l] = two;
-                        found += waysToRead(group, left & ~(1 << l), taken | two, depth + 1);
+                    if ((taken & two) == 0 && Names.canBe(r.one[l], r.other[l], p, q)) {
+                        r.pair[l] = two;
+                        found += waysToRead(r, group, left & ~(1 << l), taken | two, depth + 1);
                     }
                 }
             }
@@ -1036,32 +1036,32 @@ public final class LoveLocks {
 
         int questionsFor(int set) {
             Arrays.fill(known, (byte) 0);
-            int found = fewest(set, 0);
+            int found = fewest(this, set, 0);
             return found >= NEVER ? NONE : found;
         }
 
-        private int fewest(int set, int depth) {
+        private static int fewest(Seeker s, int set, int depth) {
             int size = Integer.bitCount(set);
             if (size <= 1) {
                 return 0;
             }
-            if (depth > LOCKS || set < 0 || set >= known.length) {
+            if (depth > LOCKS || set < 0 || set >= s.known.length) {
                 return NEVER;
             }
-            if (known[set] != 0) {
-                return known[set];
+            if (s.known[set] != 0) {
+                return s.known[set];
             }
             // no fewer questions than these can tell so many apart
             int floor = 32 - Integer.numberOfLeadingZeros(size - 1);
             int best = NEVER;
             for (int q = 0; q < QUESTIONS && best > floor; q++) {
-                int said = set & yes[q];
+                int said = set & s.yes[q];
                 if (said != 0 && said != set) {
-                    int worst = 1 + Math.max(fewest(said, depth + 1), fewest(set & ~said, depth + 1));
+                    int worst = 1 + Math.max(fewest(s, said, depth + 1), fewest(s, set & ~said, depth + 1));
                     best = Math.min(best, worst);
                 }
             }
-            known[set] = (byte) best;
+            s.known[set] = (byte) best;
             return best;
         }
     }
@@ -1076,27 +1076,27 @@ public final class LoveLocks {
             loots = 0;
             inAll = -1;
             inSome = 0;
-            takeFrom(rail, hanging, 0, 0, rail.weightOf(hanging) - load);
+            takeFrom(this, rail, hanging, 0, 0, rail.weightOf(hanging) - load);
         }
 
         /** A lock comes behind the one on which it hangs: whether that went is known by then. */
-        private void takeFrom(Rail rail, int hanging, int l, int went, int missing) {
+        private static void takeFrom(Looter loot, Rail rail, int hanging, int l, int went, int missing) {
             if (missing < 0) {
                 return;
             }
             if (l >= rail.locks || l >= LOCKS) {
                 if (missing == 0 && went != 0) {
-                    keepLoot(went);
+                    loot.keepLoot(went);
                 }
                 return;
             }
             boolean hangs = (hanging >> l & 1) != 0;
             boolean pulled = hangs && rail.holder[l] >= 0 && (went >> rail.holder[l] & 1) != 0;
             if (!pulled) {
-                takeFrom(rail, hanging, l + 1, went, missing);
+                takeFrom(loot, rail, hanging, l + 1, went, missing);
             }
             if (pulled || hangs && rail.kind[l] == 0) {
-                takeFrom(rail, hanging, l + 1, went | 1 << l, missing - rail.weight[l]);
+                takeFrom(loot, rail, hanging, l + 1, went | 1 << l, missing - rail.weight[l]);
             }
         }
 

@@ -827,6 +827,9 @@ public final class ModelRuns {
         int p = some(0, m.panels.size() - 1);
         int b = some(0, 2);
         int load = some(0, m.isPanel(p) && in(b, 0, 2) ? m.load(p, b) : 99999);
+        if (m.isPanel(p) && in(b, 0, 2) && random.nextInt(10) != 0) {
+            load = Math.max(0, m.load(p, b) - random.nextInt(20));
+        }
         int what = some(0, 2);
         int want = BAD;
         if (m.isPanel(p) && in(b, 0, 2) && in(load, 0, 99999) && in(what, 0, 2)) {
@@ -1015,7 +1018,45 @@ public final class ModelRuns {
         }
     }
 
+    /** Full of names, or of brass on one bar: what random calls seldom come to. */
+    private void scene() {
+        if (seed % 3 == 0) {
+            return;
+        }
+        x.panel(99999, 99999, 99999);
+        m.panels.add(new int[] {99999, 99999, 99999});
+        m.risks.add(new int[3]);
+        story.append("  panel(99999, 99999, 99999)\n");
+        int locks = 3 + random.nextInt(12);
+        for (int k = 0; k < locks; k++) {
+            int w = 1 + random.nextInt(4);
+            int kind = random.nextInt(3) == 0 ? 1 : 0;
+            int y = seed % 3 == 1 ? random.nextInt(6) : random.nextInt(20);
+            int bar = random.nextInt(8) == 0 ? 1 : 0;
+            if (k > 0 && random.nextInt(5) < 3) {
+                int l = random.nextInt(k);
+                due(call("hangOn", l, w, kind, y), add(0, m.locks.get(l).bar, l, w, kind, y), x.hangOn(l, w, kind, y));
+            } else {
+                due(call("hang", 0, bar, w, kind, y), add(0, bar, -4, w, kind, y), x.hang(0, bar, w, kind, y));
+            }
+        }
+        for (int k = 0; k < 45; k++) {
+            if (seed % 3 == 2) {
+                stolen();
+                ask();
+            } else if (k < 8) {
+                person();
+            } else if (k < 30) {
+                letters();
+                ways();
+            } else {
+                ways();
+            }
+        }
+    }
+
     private boolean run() {
+        scene();
         for (int k = 0; k < 160 && !wrong; k++) {
             int r = random.nextInt(10);
             if (r < 4) {

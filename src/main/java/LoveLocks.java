@@ -361,7 +361,7 @@ public final class LoveLocks {
         return n;
     }
 
-    /** All that an image keeps. */
+    /** In one place, so that an image is kept, and taken back, in one step. */
     private static final class State {
         final Rail rail = new Rail();
         final Sights sights = new Sights();
@@ -378,7 +378,6 @@ public final class LoveLocks {
         }
     }
 
-    /** Panels, and locks on their bars and on one another. */
     private static final class Rail {
         int panels;
         final int[] barLimit = new int[PANELS];
@@ -465,7 +464,7 @@ public final class LoveLocks {
             }
         }
 
-        /** The lock and all that hangs on it; a lock comes behind the one on which it hangs. */
+        /** One pass is enough, for a lock comes behind the one on which it hangs. */
         int withAllOn(int l) {
             int set = 1 << l;
             for (int i = l + 1; i < locks; i++) {
@@ -571,7 +570,7 @@ public final class LoveLocks {
         }
     }
 
-    /** What photographs and trucks let, panel by panel. */
+    /** A sight can but narrow a span: so no sight is kept, just the span of each panel. */
     private static final class Sights {
         int sights;
         private final int[] of = new int[PANELS];
@@ -609,7 +608,7 @@ public final class LoveLocks {
         }
     }
 
-    /** Names of people, and letters on locks: each name is its bytes in a long, the last one lowest. */
+    /** A name is its bytes in a long, the last one lowest: of unlike lengths, one has a byte 0 where the other has none. */
     private static final class Names {
         int people;
         int lettered;
@@ -695,7 +694,7 @@ public final class LoveLocks {
         }
     }
 
-    /** The ways in which all locks with letters can be read, year by year. */
+    /** Locks of unlike years don't hinder one another: each year is read alone, and the ways are multiplied. */
     private static final class Reader {
         long ways;
         private int people;
@@ -780,7 +779,6 @@ public final class LoveLocks {
         }
     }
 
-    /** Which panels are cut in which night. */
     private static final class Nights {
         private static final int NEVER = 1000000, SETS = 1 << PANELS;
         private int nightly = 2;
@@ -835,7 +833,7 @@ public final class LoveLocks {
             return night[p];
         }
 
-        /** From the last night back: the least cost of each set of panels that are left. */
+        /** From the last night back, for what is still to be paid hangs but on the panels that are left. */
         void plan(int panels) {
             int sets = 1 << panels;
             Arrays.fill(cost[NIGHTS], NEVER);
@@ -898,7 +896,6 @@ public final class LoveLocks {
         }
     }
 
-    /** Counts of months, and the laws that lead through them. */
     private static final class Growth {
         private static final int ANY = 1000000, RATES = 20, ADDED = 9;
         private final int[] least = new int[MONTHS];
@@ -986,12 +983,9 @@ public final class LoveLocks {
         }
     }
 
-    /** Questions by which one lock of a set is found. */
     private static final class Seeker {
-        private static final int QUESTIONS = PANELS + YEARS + 2, NEVER = 99;
+        private static final int QUESTIONS = PANELS + YEARS + 2;
         private final int[] yes = new int[QUESTIONS];
-        // questions needed by set, 0: not known yet
-        private final byte[] known = new byte[1 << LOCKS];
 
         static int numberOf(int q) {
             if (q < PANELS) {
@@ -1035,38 +1029,50 @@ public final class LoveLocks {
         }
 
         int questionsFor(int set) {
-            Arrays.fill(known, (byte) 0);
-            int found = fewest(this, set, 0);
-            return found >= NEVER ? NONE : found;
-        }
-
-        private static int fewest(Seeker s, int set, int depth) {
-            int size = Integer.bitCount(set);
-            if (size <= 1) {
-                return 0;
+            // looked at first, for no number of questions would end the search
+            if (!areApart(set)) {
+                return NONE;
             }
-            if (depth > LOCKS || set < 0 || set >= s.known.length) {
-                return NEVER;
-            }
-            if (s.known[set] != 0) {
-                return s.known[set];
-            }
-            // no fewer questions than these can tell so many apart
-            int floor = 32 - Integer.numberOfLeadingZeros(size - 1);
-            int best = NEVER;
-            for (int q = 0; q < QUESTIONS && best > floor; q++) {
-                int said = set & s.yes[q];
-                if (said != 0 && said != set) {
-                    int worst = 1 + Math.max(fewest(s, said, depth + 1), fewest(s, set & ~said, depth + 1));
-                    best = Math.min(best, worst);
+            for (int n = 0; n < LOCKS; n++) {
+                if (areEnough(this, set, n)) {
+                    return n;
                 }
             }
-            s.known[set] = (byte) best;
-            return best;
+            return NONE;
+        }
+
+        private boolean areApart(int set) {
+            for (int l = 0; l < LOCKS; l++) {
+                int like = (set >> l & 1) != 0 ? set : 0;
+                for (int q = 0; q < QUESTIONS; q++) {
+                    like &= (yes[q] >> l & 1) != 0 ? yes[q] : ~yes[q];
+                }
+                if (Integer.bitCount(like) > 1) {
+                    return false;
+                }
+            }
+            return true;
+        }
+
+        private static boolean areEnough(Seeker s, int set, int questions) {
+            int size = Integer.bitCount(set);
+            if (size <= 1) {
+                return true;
+            }
+            if (questions <= 0 || questions > LOCKS || size > 1 << questions) {
+                return false;
+            }
+            for (int q = 0; q < QUESTIONS; q++) {
+                int said = set & s.yes[q];
+                if (said != 0 && said != set && areEnough(s, said, questions - 1)
+                        && areEnough(s, set & ~said, questions - 1)) {
+                    return true;
+                }
+            }
+            return false;
         }
     }
 
-    /** Sets of locks of a bar that can have been stolen. */
     private static final class Looter {
         int loots;
         int inAll;
@@ -1107,7 +1113,6 @@ public final class LoveLocks {
         }
     }
 
-    /** Bytes that are typed till a name or letters are read from them. */
     private static final class Tape {
         int length;
         long first;
@@ -1180,7 +1185,7 @@ public final class LoveLocks {
         }
     }
 
-    /** Rows of items, each taken as one of three lanes. */
+    /** Items of all lanes stand in rows of ints, cut to their lane when they are put: so no call makes a row. */
     private static final class Sheets {
         private static final int NOTHING = -1;
         private final int[] lane = new int[SHEETS];

@@ -360,6 +360,36 @@ public final class PromiseTests {
         due(4, y.on(0, 1));
         due(0, y.on(1, 1));
         due(0, y.giveWay());
+        // one fall behind the other, bar by bar
+        LoveLocks z = new LoveLocks();
+        for (int p = 0; p < 6; p++) {
+            z.panel(1, 99999, 99999);
+        }
+        for (int k = 17; k >= 4; k--) {
+            z.hang(k / 3, k % 3, 2, 0, 0);
+        }
+        due(111, z.over());
+        due(14, z.giveWay());
+        due(NONE, z.over());
+        for (int b = 0; b < 3; b++) {
+            LoveLocks u = withPanels(5);
+            u.panel(9, 19, 99);
+            u.hang(4, b, 1, 0, 0);
+            u.hang(5, b, 10, 0, 0);
+            u.hang(5, (b + 1) % 3, 9, 0, 0);
+            due(150 + b, u.over());
+            due(1, u.giveWay());
+            due(9, u.load(5, 3));
+            due(1, u.load(4, 3));
+            LoveLocks v = withPanels(3);
+            v.panel(9, 9, 99);
+            v.hang(2, b, 5, 0, 0);
+            v.hang(3, b, 5, 0, 0);
+            v.hang(3, (b + 1) % 3, 5, 0, 0);
+            due(203, v.over());
+            due(2, v.giveWay());
+            due(5, v.load(2, b));
+        }
     }
 
     private static void count() {
@@ -491,6 +521,7 @@ public final class PromiseTests {
         due(BAD, x.type(65, 0));
         due(BAD, x.type(65, 9));
         due(BAD, x.type(65, -1));
+        due(BAD, x.type(0x4141414141414141L, 9));
         due(BAD, x.type(65, MIN));
         due(BAD, x.type(31, 1));
         due(BAD, x.type(127, 1));
@@ -631,6 +662,15 @@ public final class PromiseTests {
         due(3, x.ways());
         letters(x, 1, "A+E");
         due(0, x.ways());
+        letters(x, 0, "?+?");
+        letters(x, 1, "?+?");
+        x.hang(0, 0, 1, 0, 5);
+        letters(x, 3, "?+?");
+        due(0, x.ways());
+        person(x, "E");
+        due(0, x.ways());
+        person(x, "F");
+        due(90 * 5, x.ways());
         LoveLocks y = withLocks(12);
         for (int k = 0; k < 8; k++) {
             person(y, "P");
@@ -915,6 +955,15 @@ public final class PromiseTests {
         x.cut(2);
         due(BAD, x.ask(4, 0));
         due(BAD, x.ask(8 + 1, 1));
+        LoveLocks z = withPanels(3);
+        z.hang(1, 0, 1, 0, 3);
+        z.hang(2, 0, 1, 0, 3);
+        z.hang(0, 0, 1, 0, 3);
+        due(1, z.ask(3, 0));
+        due(1, z.needed(3));
+        due(0, z.ask(5, 0));
+        due(1, z.needed(5));
+        due(0, z.ask(7, 0));
         due(0, x.ask(1, 0));
         due(1, x.ask(1, 1));
         LoveLocks y = withLocks(14);
@@ -1058,6 +1107,19 @@ public final class PromiseTests {
 
     private static void restore() {
         start(33);
+        LoveLocks y = withPanels(1);
+        y.image();
+        y.photo(0, 5, 5);
+        y.restore();
+        due(0, y.span(0, 0));
+        due(99999, y.span(0, 1));
+        y.photo(0, 7, 1);
+        y.image();
+        y.photo(0, 8, 0);
+        due(8, y.span(0, 0));
+        y.restore();
+        due(7, y.span(0, 0));
+        due(8, y.span(0, 1));
         LoveLocks x = new LoveLocks();
         due(NONE, x.restore());
         fill(x);
@@ -1078,6 +1140,11 @@ public final class PromiseTests {
         due(2, x.risk(0, 2, 2));
         due(1, x.panel(99999, 1, 1));
         due(0, x.risk(1, 0, 1));
+        due(0, x.span(1, 0));
+        due(99999, x.span(1, 1));
+        due(2, x.photo(1, 9, 1));
+        due(9, x.span(1, 0));
+        due(10, x.span(1, 1));
         due(NOT, x.readings(0));
         due(-20, x.person());
     }

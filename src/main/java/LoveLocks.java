@@ -608,7 +608,7 @@ public final class LoveLocks {
         }
     }
 
-    /** A name is its bytes in a long, the last one lowest: of unlike lengths, one has a byte 0 where the other has none. */
+    /** A name is its bytes in a long, the last one lowest: of unlike lengths, one has a byte 0 where another has none. */
     private static final class Names {
         int people;
         int lettered;

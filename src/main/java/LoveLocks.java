@@ -507,14 +507,19 @@ public final class LoveLocks {
             return barLoad(p, 0) + barLoad(p, 1) + barLoad(p, 2);
         }
 
+        int sagOf(int p) {
+            return barLoad(p, 0) + 2 * barLoad(p, 1) + barLoad(p, 2);
+        }
+
         int loadOf(int p, int what) {
-            if (what >= 0 && what < BARS) {
-                return barLoad(p, what);
+            switch (what) {
+                case 0:
+                case 1:
+                case 2: return barLoad(p, what);
+                case 3: return panelLoad(p);
+                case 4: return sagOf(p);
+                default: return BAD;
             }
-            if (what == BARS) {
-                return panelLoad(p);
-            }
-            return what == BARS + 1 ? panelLoad(p) + barLoad(p, 1) : BAD;
         }
 
         private boolean isOver(int l) {
@@ -535,7 +540,7 @@ public final class LoveLocks {
                 }
             }
             for (int p = 0; p < panels; p++) {
-                if (panelLoad(p) > allLimit[p] || loadOf(p, BARS + 1) > sagLimit[p]) {
+                if (panelLoad(p) > allLimit[p] || sagOf(p) > sagLimit[p]) {
                     return 200 + p;
                 }
             }
@@ -1062,12 +1067,15 @@ public final class LoveLocks {
             if (questions <= 0 || questions > LOCKS || size > 1 << questions) {
                 return false;
             }
+            int last = 0;
             for (int q = 0; q < QUESTIONS; q++) {
                 int said = set & s.yes[q];
-                if (said != 0 && said != set && areEnough(s, said, questions - 1)
+                // a number or a year that no lock has parts the set as the one ahead of it did
+                if (said != last && said != 0 && said != set && areEnough(s, said, questions - 1)
                         && areEnough(s, set & ~said, questions - 1)) {
                     return true;
                 }
+                last = said;
             }
             return false;
         }

@@ -27,6 +27,7 @@ public final class EdgeTests {
     }
 
     public static void main(String[] args) {
+        terms();
         rail();
         falls();
         sights();
@@ -93,6 +94,61 @@ public final class EdgeTests {
         due(1, x.months(sheet, lane, i, 1));
         due(least, x.grown(0, 0));
         due(most, x.grown(0, 1));
+    }
+
+    // ---- terms
+
+    private static void terms() {
+        holds("An object is used for at most 512 calls", () -> {
+            LoveLocks x = locks(3);
+            for (int k = 0; k < 126; k++) {
+                x.image();
+                x.hangOn(2, 999, 0, 0);
+                x.giveWay();
+                x.restore();
+            }
+            due(3, x.count(1));
+            due(0, x.count(2));
+            due(7, x.on(0, 0));
+            due(3, x.hang(0, 0, 1, 0, 0));
+        });
+        holds("Sets (of LOCKS) are bits", () -> {
+            LoveLocks x = locks(14);
+            for (int l = 0; l < 13; l++) {
+                x.cut(l);
+            }
+            due(1 << 13, x.on(0, 0));
+            due(1 << 13, x.stolen(0, 0, 0, 1));
+            due(1 << 13, x.stolen(0, 0, 0, 2));
+            due(0, x.needed(1 << 13));
+            due(BAD, x.needed(13));
+        });
+        holds("Sets (of PEOPLE) are bits", () -> {
+            LoveLocks x = locks(14);
+            for (int p = 0; p < 8; p++) {
+                person(x, "" + (char) ('A' + p));
+            }
+            letters(x, 13, "G+H");
+            due(1 << 6 | 1 << 7, x.who(13, 0));
+            due(1 << 6 | 1 << 7, x.who(13, 1));
+            due(1 << 13, x.where(7, 0));
+            due(1 << 13, x.where(7, 1));
+            due(0, x.where(5, 0));
+        });
+        holds("the same calls answer the same on two objects, each by itself", () -> {
+            LoveLocks x = locks(2);
+            LoveLocks y = locks(2);
+            x.cut(0);
+            x.image();
+            x.type('A', 1);
+            x.month(0, 5, 5);
+            x.sheet(0, 0, 3);
+            due(0, y.count(2));
+            due(NONE, y.restore());
+            due(-20, y.person());
+            due(9999, y.grown(0, 1));
+            due(NULL, y.drop(0));
+        });
     }
 
     // ---- 1 the rail
